@@ -1,0 +1,63 @@
+import java.lang.reflect.Constructor;
+import java.lang.reflect.Field;
+import java.lang.reflect.Method;
+import java.lang.reflect.Modifier;
+import java.util.Arrays;
+import java.util.TreeSet;
+
+/** The public face is the document's, and nothing more (LANGUAGE.md, rule 1). */
+public final class FaceTest {
+    private static final String[] METHODS = {
+        "int post(int, int, int)", "int reach(int, int)", "boolean weather(int, int)",
+        "int sees(int, int, int, int)", "int manned(int)", "int open(int)",
+        "int sight(int, int, int, int, int)", "int plot(int, int)", "int corners(int, int)",
+        "long corner(int, int, int, int)", "int box(int, int, int)", "int plotted(int, int)",
+        "boolean speed(int)", "int track(int, int)", "int plan(int, int, int, int)",
+        "boolean in(int)", "int boat(int, int, int)", "boolean call(int, int)", "int step(int)",
+        "int log(int, int)", "int count(int)",
+    };
+
+    public static void main(String[] args) {
+        Class<?> face = CoastWatch.class;
+        Due.is("public final", face.getModifiers() & ~Modifier.PUBLIC, Modifier.FINAL);
+        TreeSet<String> names = new TreeSet<>();
+        TreeSet<String> open = new TreeSet<>();
+        for (Method m : face.getDeclaredMethods()) {
+            if (!Modifier.isPrivate(m.getModifiers())) {
+                open.add(told(m));
+                names.add(m.getName());
+                Due.is("public: " + m, Modifier.isPublic(m.getModifiers()), true);
+            }
+        }
+        TreeSet<String> wanted = new TreeSet<>(Arrays.asList(METHODS));
+        Due.is("the methods are " + open + ", due are " + wanted, open.equals(wanted), true);
+        for (Method m : face.getDeclaredMethods()) {
+            if (Modifier.isPrivate(m.getModifiers())) {
+                Due.is("private and public: " + m.getName(), names.contains(m.getName()), false);
+            }
+        }
+        for (Field f : face.getDeclaredFields()) {
+            if (!Modifier.isPrivate(f.getModifiers())) {
+                Due.is("open field " + f.getName(), f.getName().equals("NONE"), true);
+            }
+        }
+        Constructor<?>[] made = face.getDeclaredConstructors();
+        Due.is("constructors", made.length, 1);
+        Due.is("its parameters", made[0].getParameterCount(), 0);
+        Due.is("it is public", Modifier.isPublic(made[0].getModifiers()), true);
+        for (Class<?> inside : face.getDeclaredClasses()) {
+            Due.is("static: " + inside, Modifier.isStatic(inside.getModifiers()), true);
+            Due.is("not public: " + inside, Modifier.isPublic(inside.getModifiers()), false);
+        }
+        Due.is("NONE", CoastWatch.NONE, -1);
+        Due.end();
+    }
+
+    private static String told(Method m) {
+        StringBuilder text = new StringBuilder();
+        for (Class<?> p : m.getParameterTypes()) {
+            text.append(text.length() == 0 ? "" : ", ").append(p.getName());
+        }
+        return m.getReturnType().getName() + " " + m.getName() + "(" + text + ")";
+    }
+}
