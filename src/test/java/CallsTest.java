@@ -10,6 +10,7 @@ public final class CallsTest {
         cameIn();
         minuteZero();
         longestWait();
+        eachInAMinuteOfItsOwn();
         threeHundredLines();
         counts();
         Due.end();
@@ -185,6 +186,21 @@ public final class CallsTest {
         line(w, 2, 2, 0, 19999);
         line(w, 3, 0, 0, 20000);
         Due.is("due at the last minute: never overdue", w.boat(1, 20000, 20000), 2);
+    }
+
+    private static void eachInAMinuteOfItsOwn() {
+        CoastWatch w = new CoastWatch();
+        for (int b = 0; b < 30; b++) {
+            w.plan(b, 0, 10 * b, 0);
+        }
+        for (int k = 0; k < 5; k++) {
+            w.call(k, k);
+        }
+        w.step(3000);
+        Due.is("all in one step", w.count(7), 150);
+        for (int i = 0; i < 150; i++) {
+            line(w, i, i / 5, i % 5, 10 * (i / 5) + 1 + i % 5);
+        }
     }
 
     private static void threeHundredLines() {

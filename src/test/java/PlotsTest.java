@@ -236,5 +236,13 @@ public final class PlotsTest {
         Due.corner(below, 0, 1, 2, 1, 1, -1, 1);
         Due.corner(below, 0, 1, 3, 1, 1, -1, 3);
         Due.box(below, 0, 1, 0, -1, 1, 0);
+        CoastWatch half = new CoastWatch();
+        half.post(0, 0, 5);
+        half.post(3, 0, 5);
+        half.sight(0, 1, 0, 1, 1);
+        half.sight(1, -1, 1, -1, 0);
+        Due.is("a triangle", half.corners(0, 1), 3);
+        Due.corner(half, 0, 1, 1, 3, 2, 3, 2);
+        Due.box(half, 0, 1, 0, 0, 3, 2);
     }
 }
