@@ -27,6 +27,7 @@ public final class FaceTest {
                 open.add(told(m));
                 names.add(m.getName());
                 Due.is("public: " + m, Modifier.isPublic(m.getModifiers()), true);
+                throwsAsTold(m);
             }
         }
         TreeSet<String> wanted = new TreeSet<>(Arrays.asList(METHODS));
@@ -51,6 +52,15 @@ public final class FaceTest {
         }
         Due.is("NONE", CoastWatch.NONE, -1);
         Due.end();
+    }
+
+    private static void throwsAsTold(Method m) {
+        boolean told = m.getName().equals("corner") || m.getName().equals("box");
+        Class<?>[] thrown = m.getExceptionTypes();
+        Due.is("what " + m.getName() + " throws", thrown.length, told ? 1 : 0);
+        if (thrown.length == 1) {
+            Due.is("it is " + thrown[0], thrown[0] == java.util.NoSuchElementException.class, true);
+        }
     }
 
     private static String told(Method m) {
