@@ -5,7 +5,10 @@ import java.lang.reflect.Modifier;
 import java.util.Arrays;
 import java.util.TreeSet;
 
-/** The public face is the document's, and nothing more (LANGUAGE.md, rule 1). */
+/**
+ * The public face is the document's, and nothing more (LANGUAGE.md, rule 1); and what of its rules 2, 5
+ * and 11 the compiled class shows.
+ */
 public final class FaceTest {
     private static final String[] METHODS = {
         "int post(int, int, int)", "int reach(int, int)", "boolean weather(int, int)",
@@ -49,9 +52,29 @@ public final class FaceTest {
         for (Class<?> inside : face.getDeclaredClasses()) {
             Due.is("static: " + inside, Modifier.isStatic(inside.getModifiers()), true);
             Due.is("not public: " + inside, Modifier.isPublic(inside.getModifiers()), false);
+            keepsRules(inside, names);
         }
+        keepsRules(face, new TreeSet<>());
+        Due.is("some twelve classes", face.getDeclaredClasses().length <= 11, true);
         Due.is("NONE", CoastWatch.NONE, -1);
         Due.end();
+    }
+
+    private static void keepsRules(Class<?> made, TreeSet<String> publicNames) {
+        int fields = 0;
+        for (Field f : made.getDeclaredFields()) {
+            boolean ofAll = Modifier.isStatic(f.getModifiers());
+            fields += ofAll ? 0 : 1;
+            Due.is("never changed: " + f, !ofAll || Modifier.isFinal(f.getModifiers()), true);
+        }
+        Due.is("some twenty fields: " + made, fields <= 20, true);
+        for (Method m : made.getDeclaredMethods()) {
+            Due.is("at most seven parameters: " + m, m.getParameterCount() <= 7, true);
+            Due.is("the face alone has that name: " + m, publicNames.contains(m.getName()), false);
+        }
+        for (Class<?> deeper : made.getDeclaredClasses()) {
+            Due.is("nothing inside what is inside: " + deeper, made == CoastWatch.class, true);
+        }
     }
 
     private static void throwsAsTold(Method m) {
